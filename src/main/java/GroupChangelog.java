@@ -160,7 +160,7 @@ public final class GroupChangelog {
         return limit > MOST_ROWS ? MOST_ROWS : limit;
     }
 
-    /** The number of rows that stand before every row with this key and value. */
+    // Takes any key, also one out of range: remove looks for its row without a test of the key.
     private int rowsBefore(int key, int value) {
         int place = 0;
         while (place < rows

@@ -117,6 +117,14 @@ public final class PromiseTests {
         dueNoEntry("2", x, 6);
     }
 
+    private static void promise2OnlyTheCountChanges() {
+        GroupChangelog x = withRows(1, 0);
+        due("2: a second 0", x.insert(1, 0), 2);
+        due("2: only field 0 differs", x.pending(), 2);
+        dueEntry("2: only field 0 differs", x, 0, 1, 1, 1, 0, 0, 0, 1, 0);
+        dueEntry("2: only field 0 differs", x, 1, 2, 1, 2, 0, 0, 0, 1, 0);
+    }
+
     private static void promise2WrongKey() {
         GroupChangelog x = withRows(0, 1);
         for (int key : NOT_KEYS) {
@@ -446,6 +454,17 @@ public final class PromiseTests {
         due("10: the table stays", x.now(7, 3), 70);
     }
 
+    private static void promise10TakeMovesBothSorts() {
+        GroupChangelog x = new GroupChangelog();
+        x.insert(4, 3);
+        x.insert(4, 8);
+        due("10: one of three", x.take(1), 1);
+        dueEntry("10: one of three", x, 0, 1, 4, 1, 3, 3, 3, 1, 3);
+        dueEntry("10: one of three", x, 1, 2, 4, 2, 11, 3, 8, 2, 3);
+        due("10: one of two", x.take(1), 1);
+        dueEntry("10: one of two", x, 0, 2, 4, 2, 11, 3, 8, 2, 3);
+    }
+
     private static void promise11Now() {
         GroupChangelog x = withRows(3, 5, -2, 5, 9);
         dueGroup("11: four rows", x, 3, 4, 17, -2, 9, 3, 5);
@@ -504,6 +523,7 @@ public final class PromiseTests {
         promise1NewObject();
         promise1StartLimits();
         promise2Insert();
+        promise2OnlyTheCountChanges();
         promise2WrongKey();
         promise2FullTable();
         promise2FullLog();
@@ -528,6 +548,7 @@ public final class PromiseTests {
         promise8Key();
         promise9Field();
         promise10Take();
+        promise10TakeMovesBothSorts();
         promise11Now();
         promise12Below();
         System.out.println(wrong == 0 ? "all answers are as due" : wrong + " answers are not as due");
