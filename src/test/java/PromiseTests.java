@@ -1,72 +1,5 @@
 /** One method or more for each promise of the document: ordinary inputs, edges and wrong inputs. */
-public final class PromiseTests {
-    private static final int MIN = Integer.MIN_VALUE;
-    private static final int MAX = Integer.MAX_VALUE;
-    private static final int[] NOT_KEYS = {-1, 8, 9, MIN, MAX};
-    private static final int[] NOT_FIELDS = {-1, 6, 7, MIN, MAX};
-
-    private static int wrong = 0;
-
-    private static void due(String what, int got, int want) {
-        if (got != want) {
-            wrong++;
-            System.out.println(what + ": answered " + got + ", due is " + want);
-        }
-    }
-
-    private static void dueEntry(String what, GroupChangelog x, int place, int sort, int key, int... fields) {
-        due(what + ", sort(" + place + ")", x.sort(place), sort);
-        due(what + ", key(" + place + ")", x.key(place), key);
-        for (int f = 0; f < 6; f++) {
-            due(what + ", field(" + place + ", " + f + ")", x.field(place, f), fields[f]);
-        }
-    }
-
-    private static void dueNoEntry(String what, GroupChangelog x, int place) {
-        dueEntry(what, x, place, 0, -1, 0, 0, 0, 0, 0, 0);
-    }
-
-    private static void dueGroup(String what, GroupChangelog x, int key, int... fields) {
-        for (int f = 0; f < 6; f++) {
-            due(what + ", now(" + key + ", " + f + ")", x.now(key, f), fields[f]);
-        }
-    }
-
-    private static void dueNoGroup(String what, GroupChangelog x, int key) {
-        dueGroup(what, x, key, 0, 0, 0, 0, 0, 0);
-    }
-
-    private static GroupChangelog withRows(int key, int... values) {
-        GroupChangelog x = new GroupChangelog();
-        addRows(x, key, values);
-        return x;
-    }
-
-    private static void addRows(GroupChangelog x, int key, int... values) {
-        for (int value : values) {
-            x.insert(key, value);
-            x.take(24);
-        }
-    }
-
-    /** Ends with 40 rows, five a key with the values 0 to 4, and an empty log. */
-    private static GroupChangelog withFullTable() {
-        GroupChangelog x = new GroupChangelog();
-        for (int key = 0; key < 8; key++) {
-            addRows(x, key, 0, 1, 2, 3, 4);
-        }
-        return x;
-    }
-
-    /** Twelve rows of key 5 with the values 0 to 11, and their 23 entries in the log. */
-    private static GroupChangelog withTooFullLog() {
-        GroupChangelog x = new GroupChangelog();
-        for (int value = 0; value < 12; value++) {
-            x.insert(5, value);
-        }
-        return x;
-    }
-
+public final class PromiseTests extends Checks {
     private static void constants() {
         due("RETRACT", GroupChangelog.RETRACT, 1);
         due("ASSERT", GroupChangelog.ASSERT, 2);
@@ -145,7 +78,7 @@ public final class PromiseTests {
     }
 
     private static void promise2FullLog() {
-        GroupChangelog x = withTooFullLog();
+        GroupChangelog x = withEntries(23);
         due("2: 23 entries", x.pending(), 23);
         due("2: refused at 23", x.insert(6, 1), -1);
         dueNoGroup("2: refused at 23", x, 6);
@@ -191,7 +124,7 @@ public final class PromiseTests {
     }
 
     private static void promise3FullLog() {
-        GroupChangelog x = withTooFullLog();
+        GroupChangelog x = withEntries(23);
         due("3: refused at 23", x.remove(5, 3), -1);
         due("3: refused keeps the row", x.now(5, 0), 12);
         x.take(1);
@@ -235,7 +168,7 @@ public final class PromiseTests {
     }
 
     private static void promise4FullLog() {
-        GroupChangelog x = withTooFullLog();
+        GroupChangelog x = withEntries(23);
         due("4: refused at 23", x.removeGroup(5), -1);
         due("4: refused at 23 without rows too", x.removeGroup(6), -1);
         due("4: refused keeps the rows", x.now(5, 0), 12);
@@ -377,7 +310,7 @@ public final class PromiseTests {
     }
 
     private static void promises7To9Places() {
-        GroupChangelog x = withTooFullLog();
+        GroupChangelog x = withEntries(23);
         x.take(1);
         x.insert(5, 12);
         due("7: last place", x.sort(23), 2);
@@ -551,9 +484,6 @@ public final class PromiseTests {
         promise10TakeMovesBothSorts();
         promise11Now();
         promise12Below();
-        System.out.println(wrong == 0 ? "all answers are as due" : wrong + " answers are not as due");
-        if (wrong != 0) {
-            System.exit(1);
-        }
+        end();
     }
 }
