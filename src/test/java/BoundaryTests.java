@@ -28,6 +28,11 @@ public final class BoundaryTests extends Checks {
 
     // Terms
 
+    private static void constants() {
+        due("RETRACT", RETRACT, 1);
+        due("ASSERT", ASSERT, 2);
+    }
+
     private static void table40RowsOfOneKey() {
         GroupChangelog x = new GroupChangelog();
         for (int n = 1; n <= 40; n++) {
@@ -796,6 +801,7 @@ public final class BoundaryTests extends Checks {
         sentence("then, if it is shown after [..], an entry ASSERT", BoundaryTests::retractThenAssert);
         sentence("(So a group that is shown before and after with the same fields makes no entry.)",
             BoundaryTests::sameFieldsMakeNoEntry);
+        sentence("The constants: `RETRACT = 1`, `ASSERT = 2`", BoundaryTests::constants);
     }
 
     private static void promises1To5() {
