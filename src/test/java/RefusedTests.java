@@ -5,8 +5,8 @@ import java.util.function.Supplier;
 import java.util.function.ToIntFunction;
 
 /**
- * "A refused call answers -1 and changes nothing": every kind of refused call in every kind of state,
- * with all answers of the object before and after it.
+ * "A refused call answers -1 and changes nothing": in each of twelve states every kind of call that is
+ * refused there, with the answers about the whole log and table before and after it.
  */
 public final class RefusedTests extends Checks {
     private static final int[] VALUES = {MIN, -1, 0, 5, 11, MAX};
@@ -221,8 +221,10 @@ public final class RefusedTests extends Checks {
         anyLimits("hidden groups, 2 entries", RefusedTests::withHiddenGroupsAndEntries);
         inAnyState("a full table", Checks::withFullTable);
         insertOfAnyRow("a full table", Checks::withFullTable);
+        inAnyState("a full table, 1 entry", () -> withFullTableAndEntries(1));
         insertOfAnyRow("a full table, 1 entry", () -> withFullTableAndEntries(1));
         anyLimits("a full table, 1 entry", () -> withFullTableAndEntries(1));
+        inAnyState("1 entry", () -> withEntries(1));
         anyLimits("1 entry", () -> withEntries(1));
         inAnyState("22 entries", () -> withEntries(22));
         anyLimits("22 entries", () -> withEntries(22));
