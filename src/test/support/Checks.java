@@ -22,9 +22,13 @@ abstract class Checks {
 
     static void due(String what, int got, int want) {
         if (got != want) {
-            wrong++;
-            System.out.println(sentence + what + ": answered " + got + ", due is " + want);
+            wrong(what + ": answered " + got + ", due is " + want);
         }
+    }
+
+    static void wrong(String what) {
+        wrong++;
+        System.out.println(sentence + what);
     }
 
     static void dueEntry(String what, GroupChangelog x, int place, int sort, int key, int... fields) {
