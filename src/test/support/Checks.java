@@ -26,6 +26,12 @@ abstract class Checks {
         }
     }
 
+    static void dueThat(String what, boolean holds) {
+        if (!holds) {
+            wrong(what + ": does not hold");
+        }
+    }
+
     static void wrong(String what) {
         wrong++;
         System.out.println(sentence + what);

@@ -216,14 +216,12 @@ final class TermSentences extends Looks {
     private static void atMost24Entries() {
         for (States.State state : States.all()) {
             GroupChangelog x = state.make();
-            List<List<Integer>> all = new ArrayList<>(log(x));
             for (int i = 0; i < 30; i++) {
                 x.insert(i % 8, i);
-                if (x.pending() > 24) {
-                    wrong(state.name() + ": " + x.pending() + " entries");
-                }
+                dueThat(state.name() + ", at most 24 entries", x.pending() <= 24);
             }
-            dueSame(state.name() + ", what was there is still the oldest", log(x).subList(0, all.size()), all);
+            List<List<Integer>> before = log(state.make());
+            dueSame(state.name() + ", what was there is still the oldest", log(x).subList(0, before.size()), before);
         }
     }
 
@@ -250,9 +248,9 @@ final class TermSentences extends Looks {
             GroupChangelog x = state.make();
             for (int place = 0; place < x.pending(); place++) {
                 String what = state.name() + ", place " + place;
-                due(what + ": sort", x.sort(place) == RETRACT || x.sort(place) == ASSERT ? 1 : 0, 1);
-                due(what + ": key", isKey(x.key(place)) ? 1 : 0, 1);
-                due(what + ": rows", x.field(place, 0) > 0 ? 1 : 0, 1);
+                dueThat(what + ", a sort", x.sort(place) == RETRACT || x.sort(place) == ASSERT);
+                dueThat(what + ", a key", isKey(x.key(place)));
+                dueThat(what + ", the fields of a group with rows", x.field(place, 0) > 0);
             }
         }
         GroupChangelog x = new GroupChangelog();
